@@ -280,7 +280,7 @@ public final class CuckooMayor {
                 soonest = hour;
             }
         }
-        return what == 1 && best != NONE ? soonest : best;
+        return (what == 1 && best != NONE) ? soonest : best;
     }
 
     public int votes(int motion, int said) throws NoSuchElementException, IllegalArgumentException {
@@ -607,7 +607,7 @@ public final class CuckooMayor {
         }
 
         boolean isPassed(int motion) {
-            return (passed >> motion & 1) == 1;
+            return ((passed >> motion) & 1) == 1;
         }
 
         int howManyPassed() {
@@ -788,8 +788,8 @@ public final class CuckooMayor {
                     int left = stack[top - 1];
                     int right = stack[top];
                     switch (word) {
-                        case DO_OR: left = left != 0 || right != 0 ? 1 : 0; break;
-                        case DO_AND: left = left != 0 && right != 0 ? 1 : 0; break;
+                        case DO_OR: left = (left != 0 || right != 0) ? 1 : 0; break;
+                        case DO_AND: left = (left != 0 && right != 0) ? 1 : 0; break;
                         case DO_LESS: left = left < right ? 1 : 0; break;
                         case DO_EQUAL: left = left == right ? 1 : 0; break;
                         case DO_PLUS: left = left + right; break;
@@ -818,7 +818,7 @@ public final class CuckooMayor {
         }
 
         int unpassedMotions() {
-            return (1 << borough.motions) - 1 & ~town.passed;
+            return ((1 << borough.motions) - 1) & ~town.passed;
         }
 
         int blockedMotions() {
@@ -837,7 +837,7 @@ public final class CuckooMayor {
             for (int m = 0; m < borough.motions; m++) {
                 if (!town.isPassed(m)) {
                     int supporters = clockwork.supporters(town, m, town.call[m]);
-                    if (clockwork.carries(supporters) != clockwork.carries(supporters ^ 1 << alderman)) {
+                    if (clockwork.carries(supporters) != clockwork.carries(supporters ^ (1 << alderman))) {
                         swayed |= 1 << m;
                     }
                 }
@@ -923,9 +923,9 @@ public final class CuckooMayor {
         private boolean isOrder(int set) {
             int expense = 0;
             for (int m = 0; m < borough.motions; m++) {
-                if ((set >> m & 1) == 1) {
+                if (((set >> m) & 1) == 1) {
                     int ahead = borough.follows[m];
-                    if (town.isPassed(m) || ahead != NONE && ((set | town.passed) >> ahead & 1) == 0) {
+                    if (town.isPassed(m) || (ahead != NONE && (((set | town.passed) >> ahead) & 1) == 0)) {
                         return false;
                     }
                     expense += borough.expense(m);
@@ -937,13 +937,13 @@ public final class CuckooMayor {
         /** Sets come with their bits rising, so that of like ones the first stays. */
         private boolean isBetter(int set, int best) {
             int more = joyOf(set) - joyOf(best);
-            return more > 0 || more == 0 && Integer.bitCount(set) < Integer.bitCount(best);
+            return more > 0 || (more == 0 && Integer.bitCount(set) < Integer.bitCount(best));
         }
 
         int joyOf(int set) {
             int joy = 0;
             for (int m = 0; m < borough.motions; m++) {
-                if ((set >> m & 1) == 1) {
+                if (((set >> m) & 1) == 1) {
                     joy += borough.pleasure(m);
                 }
             }
@@ -1150,7 +1150,7 @@ public final class CuckooMayor {
 
         private int drawnBits() {
             seed = seed * 1103515245 + 12345;
-            return seed >> 16 & 0x7fff;
+            return (seed >> 16) & 0x7fff;
         }
     }
 
@@ -1214,7 +1214,7 @@ public final class CuckooMayor {
 
         private void addHeard() {
             for (int i = 0; i < NEAR; i++) {
-                unlike[i] |= 1 << heard[i] + 1;
+                unlike[i] |= 1 << (heard[i] + 1);
             }
         }
 
@@ -1387,17 +1387,12 @@ public final class CuckooMayor {
             draft.follows[m] = NONE;
             if (fault == 0 && token == BEHIND) {
                 nextToken();
-                draft.follows[m] = readMotionAhead();
+                if (token == NUMBER && digits <= MOST_DIGITS && number >= m) {
+                    fault = NOT_TOLD;
+                }
+                draft.follows[m] = readNumber(0, MOTIONS_LIMIT - 1);
             }
             draft.motions++;
-        }
-
-        private int readMotionAhead() {
-            if (token == NUMBER && digits <= MOST_DIGITS && number >= draft.motions) {
-                fault = NOT_TOLD;
-                return NONE;
-            }
-            return readNumber(0, draft.motions - 1);
         }
 
         /** A NUMBER, perhaps behind a '-' if it may be below 0; nothing is read behind a FAULT. */
@@ -1455,7 +1450,7 @@ public final class CuckooMayor {
             boolean isWord = token >= OTHER_WORD;
             if (token != NUMBER && token != OPEN && !isWord) {
                 fault = CANNOT_STAND;
-            } else if (depth >= DEPTH_LIMIT || token == NUMBER && digits > MOST_DIGITS) {
+            } else if (depth >= DEPTH_LIMIT || (token == NUMBER && digits > MOST_DIGITS)) {
                 fault = TOO_MUCH;
             } else if (token == NUMBER) {
                 putCode(number);
