@@ -157,6 +157,10 @@ public final class TextTest {
         says(1, "0-1 and 1");
         says(1, "9999*9999*22<0");
         says(1, "2048*2048*512/(0-1)<0");
+        // as much as may wait at once, in an EXPR within 5 others
+        String level = "0 or 1 and not not not not not not 0 < 0 + 1 * ";
+        says(1, (level + "(").repeat(5) + level + "7" + ")".repeat(5));
+        says(0, (level + "(").repeat(5) + level + "0" + ")".repeat(5));
         says(12, "hour");
         says(20, "oil");
         says(24, "weight");
