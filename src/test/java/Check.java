@@ -8,20 +8,28 @@ final class Check {
     static final long ILLEGAL = Long.MIN_VALUE + 1;
     static final long ANOTHER = Long.MIN_VALUE + 2;
 
+    static final int LEAST = Integer.MIN_VALUE;
+    static final int MOST = Integer.MAX_VALUE;
+
     interface Call { long answer(); }
+
+    interface Ask { long answer(int number); }
 
     private static int checks = 0;
     private static int wrong = 0;
 
     private Check() { }
 
-    static void due(String what, long want, Call call) {
-        long got;
+    private static long got(Call call) {
         try {
-            got = call.answer();
+            return call.answer();
         } catch (RuntimeException e) {
-            got = e.getClass() == NoSuchElementException.class ? NO_SUCH : e.getClass() == IllegalArgumentException.class ? ILLEGAL : ANOTHER;
+            return e.getClass() == NoSuchElementException.class ? NO_SUCH : e.getClass() == IllegalArgumentException.class ? ILLEGAL : ANOTHER;
         }
+    }
+
+    static void due(String what, long want, Call call) {
+        long got = got(call);
         checks++;
         if (got != want) {
             wrong++;
@@ -34,6 +42,59 @@ final class Check {
         if (!isSo) {
             wrong++;
             System.out.println("not so: " + what);
+        }
+    }
+
+    /** The lowest and the highest are taken, whatever is answered; what is just beside them, and far from them, is refused. */
+    static void range(String what, int lowest, int highest, long refusal, Ask ask) {
+        for (int n : new int[] {lowest, highest}) {
+            long got = got(() -> ask.answer(n));
+            holds(what + " takes " + n + ", answers " + told(got), got != refusal && got != NO_SUCH && got != ILLEGAL && got != ANOTHER);
+        }
+        for (int n : new int[] {lowest - 1, highest + 1, LEAST, MOST}) due(what + " refuses " + n, refusal, () -> ask.answer(n));
+    }
+
+    /** All that can be asked of what calls change, but for STATUS. */
+    static String all(CuckooMayor x) {
+        StringBuilder b = new StringBuilder();
+        for (int what = 0; what <= 12; what++) b.append(what).append(':').append(x.count(what)).append(' ');
+        b.append("fault ").append(x.fault());
+        for (int a = 0; a < x.count(0); a++) b.append(" a").append(a).append(' ').append(x.alderman(a, 0)).append(' ').append(x.alderman(a, 1));
+        for (int m = 0; m < x.count(1); m++) for (int what = 0; what <= 6; what++) b.append(what == 0 ? " m " : " ").append(x.motion(m, what));
+        b.append(" fouled ").append(x.fouled(0)).append(' ').append(x.fouled(1)).append(' ').append(x.fouled(2)).append(" says ").append(x.saying(1));
+        return b.toString();
+    }
+
+    static String status(CuckooMayor x) {
+        return x.count(13) + " " + x.count(14) + " " + x.count(15);
+    }
+
+    /** A call that is refused: its answer, and the STATUS that counts it (-1: none); all else stays. */
+    static void refused(String what, CuckooMayor x, long answer, int status, Call call) {
+        String all = all(x);
+        int[] counts = {x.count(13), x.count(14), x.count(15)};
+        due(what, answer, call);
+        for (int i = 0; i < 3; i++) {
+            int want = counts[i] + (i == status ? 1 : 0);
+            int which = 13 + i;
+            due(what + ": STATUS " + i, want, () -> x.count(which));
+        }
+        holds(what + ": all stays: " + all + " / " + all(x), all.equals(all(x)));
+    }
+
+    /** An ACT that is taken: its answer, one ACT more (40 at most), STATUS as it was; undone, all is as it was. */
+    static void act(String what, CuckooMayor x, long answer, Call call) {
+        String all = all(x);
+        String status = status(x);
+        int acts = x.count(10);
+        due(what, answer, call);
+        due(what + ": ACTS", Math.min(40, acts + 1), () -> x.count(10));
+        holds(what + ": STATUS stays", status.equals(status(x)));
+        if (acts < 40) {
+            x.image();
+            due(what + ": undone", acts, x::undo);
+            holds(what + ": as it was: " + all + " / " + all(x), all.equals(all(x)));
+            x.restore();
         }
     }
 
