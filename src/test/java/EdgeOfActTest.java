@@ -3,7 +3,7 @@ public final class EdgeOfActTest {
     private static final long NO_SUCH = Check.NO_SUCH;
     private static final int LEAST = Check.LEAST;
     private static final int MOST = Check.MOST;
-    private static final String TOWN = "clock 9 30 50;alderman -9 1;alderman 2 2;alderman 9 3;law 1 1 1;feast 9 2 2 behind 0;toll 24 9 -9 behind 1;";
+    private static final String TOWN = "clock 9 30 50;alderman -9 1;alderman 2 2;alderman 9 3;law 1 1 4;feast 9 2 2 behind 0;toll 24 9 -9 behind 1;";
 
     public static void main(String[] args) {
         counts();
@@ -46,7 +46,7 @@ public final class EdgeOfActTest {
         x.see(0, 0);
         Check.tell(x, "?");
         x.feed(0, 0, 0, 0, 0);
-        int[] counts = {3, 3, 3, 6, 27, 5, 49, 1, 1, 4, 2, 1, 20, 1, 2, 3};
+        int[] counts = {3, 3, 3, 6, 27, 5, 49, 4, 1, 4, 2, 1, 20, 1, 2, 3};
         for (int what = 0; what < 16; what++) { int w = what; due("count(" + w + ")", counts[w], () -> x.count(w)); }
     }
 
@@ -76,7 +76,7 @@ public final class EdgeOfActTest {
     private static void ofAMotion() {
         CuckooMayor x = Check.town(TOWN);
         for (int m = 0; m < 3; m++) { int which = m; Check.range("motion " + m, 0, 6, NO_SUCH, w -> x.motion(which, w)); }
-        int[][] told = {{0, 1, 1, 1, -1, 0, 0}, {1, 9, 2, 2, 0, 0, 1}, {2, 24, 9, -9, 1, 0, 2}};
+        int[][] told = {{0, 1, 1, 4, -1, 0, 0}, {1, 9, 2, 2, 0, 0, 1}, {2, 24, 9, -9, 1, 0, 2}};
         for (int m = 0; m < 3; m++) for (int w = 0; w < 7; w++) { int which = m; int what = w; due("motion(" + m + ", " + w + ")", told[m][w], () -> x.motion(which, what)); }
         for (int many = 0; many <= 10; many++) {
             CuckooMayor y = Check.town("alderman 1 1;" + "law 9 1 1;".repeat(many));

@@ -613,6 +613,7 @@ public final class EdgeOfAskingTest {
         listen(Check.town("clock 99 99 0;says (weight=51)*oil;"), 1, 1);
         listen(Check.town("clock 9 0 0;"), 1, 1);
         listen(Check.town("clock 9 9 0;says 0;"), 1, 1);
+        listen(Check.town("clock 50 9 0;says (oil<0 or 99<oil)*7;"), 1, 1);
         CuckooMayor none = Check.town("clock 9 9 0;says 0;");
         none.see(1, 1);
         listen(none, -1, 0);

@@ -28,7 +28,9 @@ public final class EdgeOfTextTest {
         endsTooSoon();
         firstAlongTheText();
         leastOfOneToken();
+        brokenOff();
         sums();
+        strengths();
         tests();
         Check.end();
     }
@@ -247,9 +249,9 @@ public final class EdgeOfTextTest {
 
     /** "words (a .. z, the longest row)". */
     private static void words() {
-        faults(1, "^clocks 1 1 1;", "^cloc k 1 1 1;", "^cl", "^Clock 1 1 1;", "^aldermen 1 1;", "^laws 1 1 1;", "^feasts 1 1 1;", "^tolls 1 1 1;", "^say 1;", "^vote 1;", "law 1 1 1 ^behinds 0;",
+        faults(1, "^clocks 1 1 1;", "^clocka 1 1 1;", "^clockz 1 1 1;", "^aclock 1 1 1;", "^zclock 1 1 1;", "^cloc k 1 1 1;", "^cl", "^Clock 1 1 1;", "^aldermen 1 1;", "^laws 1 1 1;", "^feasts 1 1 1;", "^tolls 1 1 1;", "^say 1;", "^vote 1;", "law 1 1 1 ^behinds 0;",
             "says 1 ^ors 1;", "says 1 ^ands 1;", "says 1 ^o 1;", "says 1 ^an 1;", "^sayshour;", "^zzz");
-        faults(3, "says ^hours;", "says ^hou;", "says ^oils;", "says ^weights;", "says ^days;", "votes ^hear;", "votes ^heards;", "votes ^leans;", "votes ^costs;", "votes ^joys;", "votes ^kinds;", "votes ^passe;",
+        faults(3, "says ^hours;", "says ^houra;", "says ^hourz;", "says ^ahour;", "says ^zhour;", "says ^hou;", "says ^oils;", "says ^weights;", "says ^days;", "votes ^hear;", "votes ^heards;", "votes ^leans;", "votes ^costs;", "votes ^joys;", "votes ^kinds;", "votes ^passe;",
             "says ^nots 1;", "says ^houroil;", "says ^notnot 1;");
         right("says 1or 1and 1;", "says not(1)or not 1;", "says hour+oil;", "law1 1 1;law1 1 1behind0;");
     }
@@ -495,6 +497,48 @@ public final class EdgeOfTextTest {
     private static void leastOfOneToken() {
         faults(1, "says 1 ^12345;", "clock 1 1 1 ^12345;", "^12345", "says 1 ^x;", "says 1 ^says 1;", "clock 1 1 1 ^clock", "law 1 1 1 ^99999;");
         faults(2, "law 1 1 1 behind ^12345;", "says ((((((^x", "says ((((((^lean", "votes ((((((^12345", "says ((((((^not");
+    }
+
+    /** Promise 3: "all anew": what a FAULT broke off is not in the way of the next text. */
+    private static void brokenOff() {
+        CuckooMayor x = new CuckooMayor();
+        String[] broken = {"clock 1 1 1;says 1;votes 1;x", "says 1+(2*(3<(4 and (", "says not not not not not not x", "votes ((((((1", "alderman1 1;".repeat(8), "law0 0 0;".repeat(11), "law 1 1 1;law 1 1 1 behind 9;"};
+        String whole = "clock 5 6 7;alderman 1 1;law 1 1 1;law 2 2 2;says not not not not not not (((((5)))));votes not not not not not not 4;";
+        for (String text : broken) {
+            for (int i = 0; i < 15; i++) Check.holds("a FAULT of " + text, Check.tell(x, text) > 0);
+            due("whole behind " + text, 0, () -> Check.tell(x, whole));
+            due("one ALDERMAN", 1, () -> x.count(0));
+            due("two MOTIONS", 2, () -> x.count(1));
+            due("which follow none", -1, () -> x.motion(1, 4));
+            due("SAYS", 1, () -> x.saying(1));
+            due("VOTES", 1, () -> x.votes(0, 1));
+        }
+    }
+
+    /** EXPR, AND, NOT, SUM, PRODUCT: which of two operators is done first, "from the left" of like ones. */
+    private static void strengths() {
+        String[] operators = {" or ", " and ", "<", "=", "+", "-", "*", "/"};
+        int[] strengths = {1, 2, 3, 3, 4, 4, 5, 5};
+        int[][] numbers = {{7, 2, 3}, {0, 0, 1}, {1, 0, 0}, {2, 3, 1}, {9, 9, 2}, {0, 5, 0}, {1, 1, 1}, {6, 4, 2}, {3, 3, 0}};
+        for (int i = 0; i < operators.length; i++) {
+            for (int j = 0; j < operators.length; j++) {
+                for (int[] n : numbers) {
+                    String bare = n[0] + operators[i] + n[1] + operators[j] + n[2];
+                    boolean laterFirst = strengths[j] > strengths[i];
+                    String grouped = laterFirst ? n[0] + operators[i] + "(" + n[1] + operators[j] + n[2] + ")" : "(" + n[0] + operators[i] + n[1] + ")" + operators[j] + n[2];
+                    if (strengths[i] == 3 && strengths[j] == 3) fault(1, "says " + n[0] + operators[i] + n[1] + "^" + operators[j] + n[2] + ";");
+                    else says(1, "(" + bare + ")=(" + grouped + ")");
+                }
+            }
+            for (int[] n : numbers) {
+                String bare = "not " + n[0] + operators[i] + n[1];
+                String grouped = strengths[i] > 2 ? "not (" + n[0] + operators[i] + n[1] + ")" : "(not " + n[0] + ")" + operators[i] + n[1];
+                says(1, "(" + bare + ")=(" + grouped + ")");
+            }
+        }
+        says(3, "9-2*3");
+        says(7, "9-8/4");
+        says(5, "2*3-1");
     }
 
     /** "From the left; ints that wrap, / cut down to 0, by 0 gives 0". */
