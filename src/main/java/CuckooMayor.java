@@ -239,7 +239,7 @@ public final class CuckooMayor {
         if (now.town.isPassed(motion)) {
             return 0;
         }
-        return foresight.hourOfPassing(motion, now.town.call[motion], FAR);
+        return foresight.hourOfPassing(motion, FAR);
     }
 
     public int then(int hours, int what) throws NoSuchElementException, IllegalArgumentException {
@@ -271,16 +271,8 @@ public final class CuckooMayor {
         if (now.town.isPassed(motion)) {
             return NONE;
         }
-        int best = NONE;
-        int soonest = NEAR + 1;
-        for (int call = 0; call <= HIGHEST_NUMBER; call++) {
-            int hour = foresight.hourOfPassing(motion, call, soonest - 1);
-            if (hour != NONE) {
-                best = call;
-                soonest = hour;
-            }
-        }
-        return (what == 1 && best != NONE) ? soonest : best;
+        int soonest = foresight.soonestPassing(motion, NEAR);
+        return (what == 1 || soonest == NONE) ? soonest : foresight.townForeseen().call[motion];
     }
 
     public int votes(int motion, int said) throws NoSuchElementException, IllegalArgumentException {
@@ -385,7 +377,7 @@ public final class CuckooMayor {
         if (motion == other || now.town.isPassed(motion) || now.town.isPassed(other)) {
             throw new IllegalArgumentException("a game is one of two motions that are not passed");
         }
-        int said = foresight.saidInHour(1);
+        int said = clockwork.nextSaid(now.town);
         if (said == NONE) {
             throw new IllegalArgumentException("nothing would be said");
         }
@@ -699,6 +691,15 @@ public final class CuckooMayor {
         }
 
         private int say(Town town) {
+            int said = nextSaid(town);
+            if (said != NONE) {
+                town.oil = Math.max(0, town.oil - 1);
+            }
+            return said;
+        }
+
+        /** What is SAID in the HOUR that comes: to ask uses up no OIL. */
+        int nextSaid(Town town) {
             if (town.weight == 0 || town.spider > 0) {
                 return NONE;
             }
@@ -710,11 +711,7 @@ public final class CuckooMayor {
                 values[3] = town.hour / 24;
                 said = Math.max(0, Math.min(HIGHEST_NUMBER, resultOf(SAYS)));
             }
-            if (town.oil == 0) {
-                return said / 2;
-            }
-            town.oil--;
-            return said;
+            return town.oil == 0 ? said / 2 : said;
         }
 
         private void turn(Town town) {
@@ -1020,11 +1017,24 @@ public final class CuckooMayor {
             return said;
         }
 
-        /** In which of so many HOURS a MOTION is PASSED, were that its CALL. */
-        int hourOfPassing(int motion, int call, int hours) {
+        /** In which of so many HOURS a MOTION is PASSED. */
+        int hourOfPassing(int motion, int hours) {
             trial.copyFrom(town);
-            trial.call[motion] = call;
             for (int i = 1; i <= hours; i++) {
+                clockwork.passHour(trial, NONE);
+                if (trial.isPassed(motion)) {
+                    return i;
+                }
+            }
+            return NONE;
+        }
+
+        /** In which of so many HOURS a MOTION could be PASSED first: its CALL in the trial town is the one by which. */
+        int soonestPassing(int motion, int hours) {
+            trial.copyFrom(town);
+            for (int i = 1; i <= hours; i++) {
+                // until it is PASSED its CALL changes nothing else, so it may be another one in each HOUR
+                trial.call[motion] = clockwork.nextSaid(trial);
                 clockwork.passHour(trial, NONE);
                 if (trial.isPassed(motion)) {
                     return i;

@@ -18,6 +18,7 @@ public final class EdgeOfAskingTest {
         calls();
         toWind();
         moving();
+        movingAmongOthers();
         votes();
         bought();
         swayed();
@@ -235,6 +236,30 @@ public final class EdgeOfAskingTest {
         due("the first one then: 6", 6, () -> deaf.moving(0, 0));
         due("in the sixth from now", 6, () -> deaf.moving(0, 1));
         due("nobody is ever for it", -1, () -> Check.town("alderman 0 0;law 12 0 0;").moving(0, 1));
+    }
+
+    private static void moving(String text, int spider, int motion, int call, int hour) {
+        CuckooMayor x = Check.town(text);
+        if (spider > 0) x.spider(spider);
+        due("the CALL by which " + motion + " of " + text, call, () -> x.moving(motion, 0));
+        due("the HOUR in which " + motion + " of " + text, hour, () -> x.moving(motion, 1));
+    }
+
+    /** "the CALL (0 to 24) by which, were it that from now on, it would be PASSED soonest": HOURS without a word, by half, and other MOTIONS ahead of it. */
+    private static void movingAmongOthers() {
+        moving("alderman 0 0;votes 1;law 9 0 0;", 5, 0, 5, 6);
+        moving("alderman 0 0;votes 1;law 9 0 0;", 24, 0, -1, -1);
+        moving("clock 0 24 0;alderman 0 0;votes 1;law 9 0 0;", 0, 0, 6, 1);
+        moving("clock 0 24 0;alderman 0 0;votes heard=0;law 9 0 0;", 0, 0, 0, 2);
+        moving("clock 9 0 0;alderman 0 0;votes 1;law 12 0 0;", 0, 0, -1, -1);
+        moving("clock 9 1 0;alderman 0 0;votes heard<12;law 9 0 0;", 0, 0, -1, -1);
+        moving("clock 9 2 0;alderman 0 0;votes heard<12;law 9 0 0;", 0, 0, 1, 2);
+        moving("clock 20 24 10;alderman 0 0;votes 1;law 12 10 1;law 9 5 1;toll 3 5 1;", 0, 1, 4, 5);
+        moving("clock 20 24 10;alderman 0 0;votes 1;law 12 10 1;toll 3 5 1;law 9 5 1;", 0, 2, 3, 4);
+        moving("clock 20 24 10;alderman 0 0;votes 1;law 9 5 1;law 12 10 1;", 0, 0, 12, 1);
+        moving("clock 20 24 10;alderman 0 0;votes passed=kind;toll 4 0 1;law 9 0 1;toll 5 0 1;", 0, 0, -1, -1);
+        moving("clock 20 24 10;alderman 0 0;votes passed=kind;feast 4 0 1;law 9 0 1;", 0, 0, 10, 11);
+        moving("clock 20 24 10;alderman 0 0;votes passed=kind;law 9 0 1;feast 4 0 1;", 0, 1, 9, 10);
     }
 
     /** Promise 22: "FOR, as bits. IllegalArgumentException (behind NoSuchElementException): not 0 to 24". */
