@@ -29,6 +29,7 @@ public final class EdgeOfTextTest {
         firstAlongTheText();
         leastOfOneToken();
         brokenOff();
+        rulesOneBehindTheOther();
         sums();
         strengths();
         tests();
@@ -512,6 +513,28 @@ public final class EdgeOfTextTest {
             due("which follow none", -1, () -> x.motion(1, 4));
             due("SAYS", 1, () -> x.saying(1));
             due("VOTES", 1, () -> x.votes(0, 1));
+        }
+    }
+
+    /** Promise 3: "all anew": a rule gives the same behind each other text, whole or broken off, as in a new object. */
+    private static void rulesOneBehindTheOther() {
+        String[] rules = {"5", "not 5", "not not 5", "not not not 0", "4+5", "4<5", "3=3", "0 or not 0", "7 and not 0", "(2+3)*4", "20-(not (1<2))", "9/(1 or 0)", "2*(3+(4-1))"};
+        int[] given = {5, 0, 1, 1, 9, 1, 1, 1, 1, 20, 20, 9, 12};
+        for (int i = 0; i < rules.length; i++) {
+            for (int j = 0; j < rules.length; j++) {
+                int first = i;
+                int second = j;
+                CuckooMayor x = Check.town("says " + rules[i] + ";");
+                due("SAYS " + rules[i], given[first], () -> x.saying(1));
+                Check.tell(x, "says " + rules[j] + ";");
+                due("SAYS " + rules[j] + " behind " + rules[i], given[second], () -> x.saying(1));
+                Check.tell(x, "alderman 0 0;law 0 0 0;votes " + rules[i] + ";says " + rules[j] + ";");
+                due("VOTES " + rules[i], given[first] > 0 ? 1 : 0, () -> x.votes(0, 0));
+                due("SAYS " + rules[j] + " behind VOTES " + rules[i], given[second], () -> x.saying(1));
+                Check.tell(x, "says " + rules[i]);
+                Check.tell(x, "alderman 0 0;law 0 0 0;votes " + rules[j] + ";");
+                due("VOTES " + rules[j] + " behind a text that ends too soon", given[second] > 0 ? 1 : 0, () -> x.votes(0, 0));
+            }
         }
     }
 
